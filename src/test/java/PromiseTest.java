@@ -526,8 +526,8 @@ public final class PromiseTest {
         due("the same twice", scoreOfFirst(x, OR, 5, 5), 16);
         due("a word that is not there gives 0", scoreOfFirst(x, OR, 6, 5), 8);
         due("a range gives 0", scoreOfFirst(x, AND, 1099, 5), 8);
-        due("the second part of WITHOUT gives 0", scoreOfFirst(x, WITHOUT, 5, AND, 5, 6), 8);
-        due("nor what is in it", scoreOfFirst(x, WITHOUT, 5, WITHOUT, 5, 5), 8);
+        due("the second part of WITHOUT gives 0", scoreOfFirst(x, WITHOUT, 5, AND, 6, OR, 5, 5), 8);
+        due("nor does WITHOUT in it", scoreOfFirst(x, WITHOUT, 5, WITHOUT, OR, 5, 5, 5), 8);
         due("a part that does not match counts", scoreOfFirst(x, OR, AND, 5, 6, 1099), 8);
         due("so does the first part of WITHOUT", scoreOfFirst(x, OR, WITHOUT, 5, 5, 1099), 8);
 
