@@ -520,7 +520,7 @@ public final class PromiseTest {
         due("12 words", scoreOfFirst(x, 5), 4 * 220 * 12 / (1200 + 120));
         due("11 pairs", scoreOfFirst(x, NEXT, 5, 5), 8 * 220 * 11 / (1100 + 120));
         due("11 + 10 + 9 pairs", scoreOfFirst(x, NEAR, 5, 5), 8 * 220 * 30 / (3000 + 120));
-        // From place i: two, three, .. up to six steps of one or more lead to i + 2 .. i + 6.
+        // Two steps of 1 .. 3 lead from place i to i + 2 .. i + 6, to some of them in several ways.
         due("10 + 9 + 8 + 7 + 6 pairs, each once", scoreOfFirst(x, NEAR, NEAR, 5, 5, 5), 12 * 220 * 40 / (4000 + 120));
         due("a row of six", scoreOfFirst(x, NEXT, 5, NEXT, 5, NEXT, 5, NEXT, 5, NEXT, 5, 5), 24 * 220 * 7 / (700 + 120));
         due("the same twice", scoreOfFirst(x, OR, 5, 5), 16);
