@@ -1,13 +1,7 @@
 import java.util.Arrays;
 
 /** For each promise of the document: ordinary calls, the edges that it names, and wrong calls. */
-public final class PromiseTest {
-    private static final int AND = 8, OR = 9, WITHOUT = 10, NEXT = 11, NEAR = 12;
-    private static final int[] WRONG_NUMBERS = {-1, Integer.MIN_VALUE, Integer.MAX_VALUE};
-
-    private static int promise;
-    private static int wrong;
-
+public final class PromiseTest extends Checks {
     public static void main(String[] args) {
         Runnable[] promises = {
             PromiseTest::newObject, PromiseTest::word, PromiseTest::add, PromiseTest::flush,
@@ -15,86 +9,11 @@ public final class PromiseTest {
             PromiseTest::about, PromiseTest::at, PromiseTest::token, PromiseTest::search,
             PromiseTest::like, PromiseTest::hit, PromiseTest::share, PromiseTest::watch,
             PromiseTest::next, PromiseTest::orderAndLimits};
-        for (Runnable test : promises) {
-            promise++;
-            test.run();
+        for (int i = 0; i < promises.length; i++) {
+            testing("promise " + (i + 1));
+            promises[i].run();
         }
-        System.out.println(wrong == 0 ? "all promises hold" : wrong + " answers are not as due");
-        if (wrong != 0) {
-            System.exit(1);
-        }
-    }
-
-    private static void due(String call, long got, long want) {
-        if (got != want) {
-            wrong++;
-            System.out.println("promise " + promise + ": " + call + " answered " + got + ", due is " + want);
-        }
-    }
-
-    private static void due(String call, boolean got, boolean want) {
-        due(call, got ? 1 : 0, want ? 1 : 0);
-    }
-
-    private static int add(SegmentShelf x, int price, int... words) {
-        for (int w : words) {
-            x.word(w);
-        }
-        return x.add(price);
-    }
-
-    private static int ask(SegmentShelf x, int limit, boolean byPrice, int... tokens) {
-        for (int t : tokens) {
-            x.token(t);
-        }
-        return x.search(limit, byPrice);
-    }
-
-    private static int observe(SegmentShelf x, int w, int... tokens) {
-        for (int t : tokens) {
-            x.token(t);
-        }
-        return x.watch(w);
-    }
-
-    /** The numbers and scores that are kept must be just these pairs, in this order. */
-    private static void dueHits(String call, SegmentShelf x, int... pairs) {
-        for (int k = 0; k < pairs.length / 2; k++) {
-            due(call + " hit(" + k + ", 0)", x.hit(k, 0), pairs[2 * k]);
-            due(call + " hit(" + k + ", 1)", x.hit(k, 1), pairs[2 * k + 1]);
-        }
-        due(call + " hit behind the last", x.hit(pairs.length / 2, 0), SegmentShelf.REFUSED);
-    }
-
-    private static void dueNews(SegmentShelf x, int w, int... numbers) {
-        for (int number : numbers) {
-            due("next(" + w + ")", x.next(w), number);
-        }
-        due("next(" + w + ") behind the last", x.next(w), SegmentShelf.REFUSED);
-    }
-
-    /** Each segment as level, how many documents, how many DELETED, lowest number. */
-    private static void dueSegments(SegmentShelf x, int... fours) {
-        due("held(3)", x.held(3), fours.length / 4);
-        for (int i = 0; i < fours.length; i++) {
-            due("segment(" + i / 4 + ", " + i % 4 + ")", x.segment(i / 4, i % 4), fours[i]);
-        }
-        due("segment behind the last", x.segment(fours.length / 4, 0), SegmentShelf.REFUSED);
-    }
-
-    private static void dueHeld(SegmentShelf x, int all, int buffered, int deleted, int segments) {
-        due("held(0)", x.held(0), all);
-        due("held(1)", x.held(1), buffered);
-        due("held(2)", x.held(2), deleted);
-        due("held(3)", x.held(3), segments);
-    }
-
-    /** Puts single documents away, each in a segment of its own before merging. */
-    private static void flushSingles(SegmentShelf x, int count) {
-        for (int i = 0; i < count; i++) {
-            x.add(0);
-            x.flush();
-        }
+        conclude("all promises hold");
     }
 
     private static void newObject() {
@@ -106,16 +25,16 @@ public final class PromiseTest {
             due("share", x.share(k), 0);
         }
         for (int w = 0; w < 4; w++) {
-            due("next", x.next(w), SegmentShelf.REFUSED);
+            due("next", x.next(w), REFUSED);
         }
         due("about(0, 0)", x.about(0, 0), -5);
-        due("at(0, 0)", x.at(0, 0), SegmentShelf.REFUSED);
+        due("at(0, 0)", x.at(0, 0), REFUSED);
         due("delete(0)", x.delete(0), false);
-        due("like(0, 1)", x.like(0, 1), SegmentShelf.REFUSED);
+        due("like(0, 1)", x.like(0, 1), REFUSED);
         due("flush()", x.flush(), 0);
         due("settle()", x.settle(), 0);
         due("watch(0) of no query", x.watch(0), 0);
-        due("search of no query", x.search(1, false), SegmentShelf.WRONG);
+        due("search of no query", x.search(1, false), WRONG);
         due("word(0)", x.word(0), 1);
         due("token(0)", x.token(0), 1);
         due("another object's add(0)", new SegmentShelf().add(0), 0);
@@ -128,13 +47,13 @@ public final class PromiseTest {
     private static void word() {
         SegmentShelf x = new SegmentShelf();
         for (int w : new int[] {8, 9, 1000, -1, Integer.MIN_VALUE, Integer.MAX_VALUE}) {
-            due("word(" + w + ")", x.word(w), SegmentShelf.REFUSED);
+            due("word(" + w + ")", x.word(w), REFUSED);
         }
         for (int i = 0; i < 12; i++) {
             due("word", x.word(i % 8), i + 1);
         }
-        due("word of a full text", x.word(0), SegmentShelf.REFUSED);
-        due("wrong word of a full text", x.word(8), SegmentShelf.REFUSED);
+        due("word of a full text", x.word(0), REFUSED);
+        due("wrong word of a full text", x.word(8), REFUSED);
         due("add", x.add(1), 0);
         for (int i = 0; i < 12; i++) {
             due("at", x.at(0, i), i % 8);
@@ -146,7 +65,7 @@ public final class PromiseTest {
         SegmentShelf x = new SegmentShelf();
         x.word(3);
         for (int price : new int[] {-1, 100, Integer.MIN_VALUE, Integer.MAX_VALUE}) {
-            due("add(" + price + ")", x.add(price), SegmentShelf.REFUSED);
+            due("add(" + price + ")", x.add(price), REFUSED);
         }
         due("add(0)", x.add(0), 0);
         due("add(99)", x.add(99), 1);
@@ -164,9 +83,9 @@ public final class PromiseTest {
         }
         dueHeld(x, 32, 0, 0, 4);
         x.word(6);
-        due("add to a full shelf", x.add(1), SegmentShelf.FULL);
+        due("add to a full shelf", x.add(1), FULL);
         x.delete(0);
-        due("DELETED ones are held", x.add(1), SegmentShelf.FULL);
+        due("DELETED ones are held", x.add(1), FULL);
         x.settle();
         due("add after settle", x.add(1), 33);
         due("the text stayed", x.at(33, 0), 6);
@@ -341,14 +260,14 @@ public final class PromiseTest {
         x.delete(10);
         dueHeld(x, 10, 2, 2, 2);
         for (int what : new int[] {-1, 4, Integer.MIN_VALUE, Integer.MAX_VALUE}) {
-            due("held(" + what + ")", x.held(what), SegmentShelf.REFUSED);
+            due("held(" + what + ")", x.held(what), REFUSED);
         }
     }
 
     private static void segment() {
         SegmentShelf x = new SegmentShelf();
         x.add(0);
-        due("the buffer is no segment", x.segment(0, 0), SegmentShelf.REFUSED);
+        due("the buffer is no segment", x.segment(0, 0), REFUSED);
         x.delete(0);
         for (int i = 0; i < 20; i++) {
             x.add(i);
@@ -359,8 +278,8 @@ public final class PromiseTest {
         x.delete(17);
         dueSegments(x, 1, 12, 1, 1, 0, 4, 2, 13, 0, 4, 1, 17);
         for (int number : new int[] {-1, 4, Integer.MIN_VALUE, Integer.MAX_VALUE}) {
-            due("segment(0, " + number + ")", x.segment(0, number), SegmentShelf.REFUSED);
-            due("segment(" + number + ", 0)", x.segment(number, 0), SegmentShelf.REFUSED);
+            due("segment(0, " + number + ")", x.segment(0, number), REFUSED);
+            due("segment(" + number + ", 0)", x.segment(number, 0), REFUSED);
         }
     }
 
@@ -397,12 +316,12 @@ public final class PromiseTest {
             due("at", x.at(0, 0), 7);
             due("at", x.at(0, 1), 0);
             due("at", x.at(0, 2), 5);
-            due("at behind the text", x.at(0, 3), SegmentShelf.REFUSED);
-            due("at of an empty text", x.at(1, 0), SegmentShelf.REFUSED);
-            due("at of none", x.at(2, 0), SegmentShelf.REFUSED);
+            due("at behind the text", x.at(0, 3), REFUSED);
+            due("at of an empty text", x.at(1, 0), REFUSED);
+            due("at of none", x.at(2, 0), REFUSED);
             for (int number : WRONG_NUMBERS) {
-                due("at(0, " + number + ")", x.at(0, number), SegmentShelf.REFUSED);
-                due("at(" + number + ", 0)", x.at(number, 0), SegmentShelf.REFUSED);
+                due("at(0, " + number + ")", x.at(0, number), REFUSED);
+                due("at(" + number + ", 0)", x.at(number, 0), REFUSED);
             }
             x.flush();
             x.delete(0);
@@ -413,15 +332,15 @@ public final class PromiseTest {
         SegmentShelf x = new SegmentShelf();
         int[] none = {-1, 13, 999, 11000, Integer.MIN_VALUE, Integer.MAX_VALUE};
         for (int t : none) {
-            due("token(" + t + ")", x.token(t), SegmentShelf.REFUSED);
+            due("token(" + t + ")", x.token(t), REFUSED);
         }
         int[] tokens = {0, 7, AND, OR, WITHOUT, NEXT, NEAR, 1000, 10999, 10900, 1099, 3};
         for (int i = 0; i < tokens.length; i++) {
             due("token(" + tokens[i] + ")", x.token(tokens[i]), i + 1);
         }
-        due("token of a full query", x.token(0), SegmentShelf.REFUSED);
-        due("wrong token of a full query", x.token(13), SegmentShelf.REFUSED);
-        due("search", x.search(1, false), SegmentShelf.WRONG);
+        due("token of a full query", x.token(0), REFUSED);
+        due("wrong token of a full query", x.token(13), REFUSED);
+        due("search", x.search(1, false), WRONG);
         due("token of the next query", x.token(0), 1);
     }
 
@@ -448,19 +367,10 @@ public final class PromiseTest {
             due("search of " + Arrays.toString(tokens), ask(x, 1, false, tokens), 0);
         }
         for (int[] tokens : bad) {
-            due("search of " + Arrays.toString(tokens), ask(x, 1, false, tokens), SegmentShelf.WRONG);
+            due("search of " + Arrays.toString(tokens), ask(x, 1, false, tokens), WRONG);
             due("token after it", x.token(0), 1);
             due("search after it", x.search(1, false), 0);
         }
-    }
-
-    private static SegmentShelf fourTexts() {
-        SegmentShelf x = new SegmentShelf();
-        add(x, 10, 0, 1);
-        add(x, 20, 0, 2);
-        add(x, 30, 1);
-        add(x, 40);
-        return x;
     }
 
     private static void matching() {
@@ -505,11 +415,6 @@ public final class PromiseTest {
         for (int[] tokens : missed) {
             due("search of " + Arrays.toString(tokens), ask(x, 1, false, tokens), 0);
         }
-    }
-
-    private static int scoreOfFirst(SegmentShelf x, int... tokens) {
-        ask(x, 1, false, tokens);
-        return x.hit(0, 1);
     }
 
     private static void scores() {
@@ -582,7 +487,7 @@ public final class PromiseTest {
         for (int k = 0; k < 10; k++) {
             due("hit(" + k + ", 0)", x.hit(k, 0), 19 - k);
         }
-        due("hit(10, 0)", x.hit(10, 0), SegmentShelf.REFUSED);
+        due("hit(10, 0)", x.hit(10, 0), REFUSED);
     }
 
     private static void like() {
@@ -600,12 +505,12 @@ public final class PromiseTest {
         due("with limit 0", x.like(4, 0), 3);
         dueHits("with limit 0", x);
         x.like(4, 2);
-        due("like of an empty text", x.like(3, 10), SegmentShelf.REFUSED);
-        due("like of none", x.like(5, 10), SegmentShelf.REFUSED);
-        due("limit 11", x.like(0, 11), SegmentShelf.REFUSED);
-        due("limit -1", x.like(0, -1), SegmentShelf.REFUSED);
+        due("like of an empty text", x.like(3, 10), REFUSED);
+        due("like of none", x.like(5, 10), REFUSED);
+        due("limit 11", x.like(0, 11), REFUSED);
+        due("limit -1", x.like(0, -1), REFUSED);
         for (int number : WRONG_NUMBERS) {
-            due("like(" + number + ", 1)", x.like(number, 1), SegmentShelf.REFUSED);
+            due("like(" + number + ", 1)", x.like(number, 1), REFUSED);
         }
         dueHits("what was kept stays", x, 0, 6, 2, 4);
         due("the pending query stays", x.search(10, false), 1);
@@ -613,7 +518,7 @@ public final class PromiseTest {
         x.delete(0);
         due("like of a DELETED one", x.like(0, 10), 2);
         x.settle();
-        due("like of one that is gone", x.like(0, 10), SegmentShelf.REFUSED);
+        due("like of one that is gone", x.like(0, 10), REFUSED);
 
         SegmentShelf y = new SegmentShelf();
         add(y, 5, 7, 6, 5, 4, 3, 2, 1, 0, 7, 6, 5, 4);
@@ -629,15 +534,15 @@ public final class PromiseTest {
 
     private static void hit() {
         SegmentShelf x = fourTexts();
-        due("hit before a search", x.hit(0, 0), SegmentShelf.REFUSED);
+        due("hit before a search", x.hit(0, 0), REFUSED);
         ask(x, 10, false, OR, 0, 1);
         due("hit(2, 0)", x.hit(2, 0), 1);
         due("hit(2, 1)", x.hit(2, 1), 3);
         for (int number : new int[] {-1, 3, Integer.MIN_VALUE, Integer.MAX_VALUE}) {
-            due("hit(" + number + ", 0)", x.hit(number, 0), SegmentShelf.REFUSED);
-            due("hit(0, " + number + ")", x.hit(0, number), SegmentShelf.REFUSED);
+            due("hit(" + number + ", 0)", x.hit(number, 0), REFUSED);
+            due("hit(0, " + number + ")", x.hit(0, number), REFUSED);
         }
-        due("hit(0, 2)", x.hit(0, 2), SegmentShelf.REFUSED);
+        due("hit(0, 2)", x.hit(0, 2), REFUSED);
         x.delete(1);
         x.settle();
         x.token(0);
@@ -647,12 +552,6 @@ public final class PromiseTest {
         dueHits("the next search", x, 0, 5 * 220 / (130 + 180));
         due("a search without hits", ask(x, 10, false, 7), 0);
         dueHits("a search without hits", x);
-    }
-
-    private static void dueShares(String call, SegmentShelf x, int... shares) {
-        for (int k = 0; k < 10; k++) {
-            due(call + " share(" + k + ")", x.share(k), shares[k]);
-        }
     }
 
     private static void share() {
@@ -681,7 +580,7 @@ public final class PromiseTest {
         ask(x, 10, true, 7);
         dueShares("of no hits", x, 0, 0, 0, 0, 0, 0, 0, 0, 0, 0);
         for (int k : new int[] {-1, 10, Integer.MIN_VALUE, Integer.MAX_VALUE}) {
-            due("share(" + k + ")", x.share(k), SegmentShelf.REFUSED);
+            due("share(" + k + ")", x.share(k), REFUSED);
         }
     }
 
@@ -689,12 +588,12 @@ public final class PromiseTest {
         SegmentShelf x = new SegmentShelf();
         due("watch(0)", observe(x, 0, 1), 1);
         due("the query is empty then", x.token(1), 1);
-        due("watch(3)", observe(x, 3, 1000), SegmentShelf.WRONG);
+        due("watch(3)", observe(x, 3, 1000), WRONG);
         due("watch of twelve tokens that are wrong",
-            observe(x, 3, OR, 0, OR, 1, OR, 2, OR, 3, OR, 4, OR, 5), SegmentShelf.WRONG);
+            observe(x, 3, OR, 0, OR, 1, OR, 2, OR, 3, OR, 4, OR, 5), WRONG);
         due("watch of eleven tokens", observe(x, 3, OR, 0, OR, 1, OR, 2, OR, 3, OR, 4, 5), 11);
         for (int w : new int[] {-1, 4, Integer.MIN_VALUE, Integer.MAX_VALUE}) {
-            due("watch(" + w + ")", x.watch(w), SegmentShelf.REFUSED);
+            due("watch(" + w + ")", x.watch(w), REFUSED);
         }
         add(x, 1, 1);
         add(x, 2, 5);
@@ -703,7 +602,7 @@ public final class PromiseTest {
         dueNews(x, 0);
         due("a watch that comes before the flush", observe(x, 1, AND, 1000 + 299, WITHOUT, 1099, 5), 5);
         x.flush();
-        due("a watch that is WRONG", observe(x, 0, 1, 1), SegmentShelf.WRONG);
+        due("a watch that is WRONG", observe(x, 0, 1, 1), WRONG);
         dueNews(x, 0, 0);
         dueNews(x, 1, 2);
         add(x, 1, 1);
@@ -721,7 +620,7 @@ public final class PromiseTest {
     private static void next() {
         SegmentShelf x = new SegmentShelf();
         for (int w : new int[] {0, 3, -1, 4, Integer.MIN_VALUE, Integer.MAX_VALUE}) {
-            due("next(" + w + ")", x.next(w), SegmentShelf.REFUSED);
+            due("next(" + w + ")", x.next(w), REFUSED);
         }
         observe(x, 0, 0);
         observe(x, 2, NEAR, 0, 1);
@@ -762,26 +661,26 @@ public final class PromiseTest {
         }
         x.word(1);
         x.word(2);
-        due("add REFUSED before FULL", x.add(100), SegmentShelf.REFUSED);
-        due("add REFUSED before FULL", x.add(-1), SegmentShelf.REFUSED);
-        due("add FULL", x.add(99), SegmentShelf.FULL);
+        due("add REFUSED before FULL", x.add(100), REFUSED);
+        due("add REFUSED before FULL", x.add(-1), REFUSED);
+        due("add FULL", x.add(99), FULL);
         due("the text stays", x.word(3), 3);
         ask(x, 3, true, 3);
         x.token(4);
-        due("search REFUSED", x.search(11, false), SegmentShelf.REFUSED);
-        due("search REFUSED", x.search(-1, true), SegmentShelf.REFUSED);
-        due("watch REFUSED", x.watch(4), SegmentShelf.REFUSED);
-        due("like REFUSED", x.like(99, 1), SegmentShelf.REFUSED);
+        due("search REFUSED", x.search(11, false), REFUSED);
+        due("search REFUSED", x.search(-1, true), REFUSED);
+        due("watch REFUSED", x.watch(4), REFUSED);
+        due("like REFUSED", x.like(99, 1), REFUSED);
         due("the query stays", x.token(5), 2);
-        due("search REFUSED before WRONG", x.search(11, false), SegmentShelf.REFUSED);
-        due("watch REFUSED before WRONG", x.watch(-1), SegmentShelf.REFUSED);
+        due("search REFUSED before WRONG", x.search(11, false), REFUSED);
+        due("watch REFUSED before WRONG", x.watch(-1), REFUSED);
         due("the query stays", x.token(6), 3);
         dueHits("hits stay", x, 0, 4, 1, 4, 2, 4);
         due("shares stay", x.share(0), 32);
-        due("search WRONG", x.search(10, false), SegmentShelf.WRONG);
+        due("search WRONG", x.search(10, false), WRONG);
         due("the query is empty then", x.token(5), 1);
         x.token(5);
-        due("watch WRONG", x.watch(0), SegmentShelf.WRONG);
+        due("watch WRONG", x.watch(0), WRONG);
         due("the query is empty then", x.token(3), 1);
         dueHits("hits stay", x, 0, 4, 1, 4, 2, 4);
         due("like", x.like(31, 1), 31);
