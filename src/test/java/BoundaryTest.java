@@ -5,7 +5,7 @@
 public final class BoundaryTest extends Sentences {
     private static final int LEAST = Integer.MIN_VALUE, GREATEST = Integer.MAX_VALUE;
 
-    public static void main(String[] args) throws IllegalAccessException {
+    public static void main(String[] args) throws Exception {
         holdAll(BoundaryTest.class);
     }
 

@@ -2,8 +2,6 @@ import java.lang.reflect.Constructor;
 import java.lang.reflect.Field;
 import java.lang.reflect.Method;
 import java.lang.reflect.Modifier;
-import java.nio.file.Files;
-import java.nio.file.Path;
 import java.util.Arrays;
 import java.util.Set;
 import java.util.TreeSet;
@@ -12,7 +10,6 @@ import java.util.regex.Pattern;
 
 /** The public face of the class, the words that LANGUAGE.md leaves out, and calls that must never throw. */
 public final class LanguageTest {
-    private static final Path SOURCE = Path.of("src/main/java/SegmentShelf.java");
     private static final Set<String> FACE = Set.of(
         "int REFUSED", "int FULL", "int WRONG", "SegmentShelf()",
         "int word(int)", "int add(int)", "int flush()", "boolean delete(int)", "int settle()", "int held(int)",
@@ -93,8 +90,7 @@ public final class LanguageTest {
     }
 
     private static void source() throws Exception {
-        String text = Files.readString(SOURCE);
-        String code = text.replaceAll("(?s)/\\*.*?\\*/", "").replaceAll("//[^\n]*", "");
+        String code = Source.withoutComments();
         Matcher foreign = Pattern.compile("\\b(import|package|throw|throws|try|catch|finally|synchronized|assert|instanceof"
             + "|null|float|double|String|Math|Integer|Long|System|Arrays|Object|var|enum|record|interface|this)\\b"
             + "|->|::|\"|\\.(?!\\d)").matcher(code);

@@ -2,7 +2,7 @@ import java.util.Arrays;
 
 /** For each sentence of "Terms" (and of "What it is") that names a boundary, a test of its own. */
 public final class TermsTest extends Sentences {
-    public static void main(String[] args) throws IllegalAccessException {
+    public static void main(String[] args) throws Exception {
         holdAll(TermsTest.class);
     }
 
