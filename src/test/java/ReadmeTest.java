@@ -22,7 +22,7 @@ public final class ReadmeTest extends Checks {
     private record Block(String kind, String text) {
     }
 
-    private record Done(int code, String output) {
+    private record Done(int code, String output, String errors) {
     }
 
     public static void main(String[] args) throws Exception {
@@ -96,7 +96,7 @@ public final class ReadmeTest extends Checks {
     }
 
     private static void dueDone(Done done, boolean well) {
-        due("done well is\n" + done.output + "that", done.code == 0, well);
+        due("done well is\n" + done.output + done.errors + "that", done.code == 0, well);
     }
 
     /** The blocks between fences in the section with this heading, in their order. */
@@ -113,11 +113,12 @@ public final class ReadmeTest extends Checks {
 
     private static Done perform(Path project, Block block) throws Exception {
         due("a block of kind " + block.kind + " to be done", block.kind.equals("sh"), true);
+        Path errors = project.resolveSibling("errors");
         Process process = new ProcessBuilder("sh", "-e", "-c", block.text).directory(project.toFile())
-            .redirectErrorStream(true).start();
+            .redirectError(errors.toFile()).start();
         process.getOutputStream().close();
         String output = new String(process.getInputStream().readAllBytes());
-        return new Done(process.waitFor(), output);
+        return new Done(process.waitFor(), output, Files.readString(errors));
     }
 
     private static List<Path> testsOf(Path project) throws IOException {
